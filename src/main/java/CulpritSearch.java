@@ -76,7 +76,7 @@ public final class CulpritSearch {
         if (known == null || !graph.holds(bad) || !isFlake(p, q) || !isSure(sure)) {
             return REFUSED;
         }
-        if (known.isClearedOf(bad)) {
+        if (known.isCleared(bad)) {
             return BAD_IS_GOOD;
         }
         return known.start(bad, p, q, sure);
@@ -316,7 +316,7 @@ public final class CulpritSearch {
             return searched;
         }
 
-        boolean isClearedOf(int number) {
+        boolean isCleared(int number) {
             return contains(cleared, number);
         }
 

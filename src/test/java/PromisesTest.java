@@ -327,8 +327,10 @@ public final class PromisesTest {
         Due.is("9 3 is skipped: 2 and 4 are like", x.next(0), 2);
         x.begin(1, 7, 0, 1, 100);
         Due.is("9 skipped by another target", x.next(1), 2);
+        x.answer(1, UNBUILDABLE);
+        Due.is("9 2 is skipped too, and 3 still", x.next(1), 4);
         x.begin(0, 7, 0, 1, 100);
-        Due.is("9 skipped though begun anew", x.next(0), 2);
+        Due.is("9 skipped though begun anew", x.next(0), 4);
         x.begin(0, 0, 0, 1, 100);
         Due.is("9 found", x.next(0), NONE);
     }
@@ -555,6 +557,9 @@ public final class PromisesTest {
         for (int wrong : new int[] {-1, 1, 2, 4, LEAST, MOST}) {
             Due.is("15 no search " + wrong, x.told(wrong, 0), NONE);
         }
+        x.begin(1, 1, 0, 1, 100);
+        Due.is("15 the first change too", x.told(1, 0), 0);
+        Due.is("15 the first change too", x.told(1, 1), 1);
     }
 
     private static void promise16Way() {
