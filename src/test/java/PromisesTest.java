@@ -1,11 +1,11 @@
 /** Each promise of the document by itself: ordinary inputs, the edges it names, and wrong inputs. */
 public final class PromisesTest {
-    private static final int NONE = CulpritSearch.NONE;
-    private static final int LEAST = Integer.MIN_VALUE;
-    private static final int MOST = Integer.MAX_VALUE;
-    private static final int PASSED = 0;
-    private static final int FAILED = 1;
-    private static final int UNBUILDABLE = 2;
+    private static final int NONE = Graphs.NONE;
+    private static final int LEAST = Graphs.LEAST;
+    private static final int MOST = Graphs.MOST;
+    private static final int PASSED = Graphs.PASSED;
+    private static final int FAILED = Graphs.FAILED;
+    private static final int UNBUILDABLE = Graphs.UNBUILDABLE;
 
     private PromisesTest() {
     }
@@ -38,18 +38,6 @@ public final class PromisesTest {
         promise16Way();
         promise17Counted();
         Due.end();
-    }
-
-    /** Changes 0 .. length - 1, each the parent of the one behind it, and as many targets as told. */
-    private static CulpritSearch chain(int length, int targets) {
-        CulpritSearch x = new CulpritSearch();
-        for (int i = 0; i < length; i++) {
-            x.change(i - 1, NONE, NONE);
-        }
-        for (int i = 0; i < targets; i++) {
-            x.target();
-        }
-        return x;
     }
 
     private static void promise1NewObject() {
@@ -133,7 +121,7 @@ public final class PromisesTest {
     }
 
     private static void promise5Good() {
-        CulpritSearch x = chain(6, 2);
+        CulpritSearch x = Graphs.chain(6, 2);
         Due.is("5 good", x.good(0, 3), 1);
         Due.is("5 already", x.good(0, 3), 0);
         Due.is("5 what a good one has isn't known by itself", x.good(0, 1), 1);
@@ -155,7 +143,7 @@ public final class PromisesTest {
     }
 
     private static void promise6Begin() {
-        CulpritSearch x = chain(10, 2);
+        CulpritSearch x = Graphs.chain(10, 2);
         x.change(2, NONE, NONE);
         Due.is("6 all of them", x.begin(0, 9, 0, 1, 100), 10);
         Due.is("6 some", x.begin(0, 4, 0, 1, 100), 5);
@@ -174,7 +162,7 @@ public final class PromisesTest {
     }
 
     private static void promise6WrongInputs() {
-        CulpritSearch x = chain(3, 2);
+        CulpritSearch x = Graphs.chain(3, 2);
         for (int wrong : new int[] {-1, -2, 2, 4, 64, LEAST, MOST}) {
             Due.is("6 no such target " + wrong, x.begin(wrong, 2, 0, 1, 100), -1);
         }
@@ -197,7 +185,7 @@ public final class PromisesTest {
     }
 
     private static void promise6Anew() {
-        CulpritSearch x = chain(8, 1);
+        CulpritSearch x = Graphs.chain(8, 1);
         x.begin(0, 7, 1, 3, 90);
         x.answer(0, PASSED);
         x.answer(0, UNBUILDABLE);
@@ -220,7 +208,7 @@ public final class PromisesTest {
     }
 
     private static void promise7Stop() {
-        CulpritSearch x = chain(4, 2);
+        CulpritSearch x = Graphs.chain(4, 2);
         Due.is("7 not begun", x.stop(0), false);
         for (int wrong : new int[] {-1, 2, 4, LEAST, MOST}) {
             Due.is("7 no such target", x.stop(wrong), false);
@@ -245,7 +233,7 @@ public final class PromisesTest {
     }
 
     private static void promise8Found() {
-        CulpritSearch x = chain(2, 1);
+        CulpritSearch x = Graphs.chain(2, 1);
         for (int wrong : new int[] {-1, 0, 1, 4, LEAST, MOST}) {
             Due.is("8 no search", x.state(wrong), NONE);
         }
@@ -269,7 +257,7 @@ public final class PromisesTest {
     }
 
     private static void promise8Tired() {
-        CulpritSearch x = chain(3, 2);
+        CulpritSearch x = Graphs.chain(3, 2);
         x.begin(0, 1, 8, 9, 100);
         for (int i = 0; i < 14; i++) {
             Due.is("8 goes on", x.answer(0, PASSED), 0);
@@ -285,7 +273,7 @@ public final class PromisesTest {
         Due.is("8 tired comes before stuck", x.state(0), 3);
         x.begin(0, 1, 8, 9, 100);
         Due.is("8 anew it is stuck", x.state(0), 2);
-        CulpritSearch y = chain(20, 1);
+        CulpritSearch y = Graphs.chain(20, 1);
         y.begin(0, 19, 0, 1, 100);
         for (int i = 0; i < 16; i++) {
             Due.is("8 skipping doesn't tire", y.answer(0, UNBUILDABLE), 0);
@@ -293,7 +281,7 @@ public final class PromisesTest {
     }
 
     private static void promise8Stuck() {
-        CulpritSearch x = chain(2, 2);
+        CulpritSearch x = Graphs.chain(2, 2);
         x.begin(0, 1, 0, 1, 100);
         x.begin(1, 1, 0, 1, 100);
         Due.is("8 stuck", x.answer(0, UNBUILDABLE), 2);
@@ -311,7 +299,7 @@ public final class PromisesTest {
     }
 
     private static void promise9Next() {
-        CulpritSearch x = chain(9, 2);
+        CulpritSearch x = Graphs.chain(9, 2);
         for (int wrong : new int[] {-1, 0, 2, 4, LEAST, MOST}) {
             Due.is("9 no search", x.next(wrong), NONE);
         }
@@ -336,7 +324,7 @@ public final class PromisesTest {
     }
 
     private static void promise9NextIsBuiltFirst() {
-        CulpritSearch x = chain(4, 2);
+        CulpritSearch x = Graphs.chain(4, 2);
         x.good(1, 1);
         x.begin(0, 2, 0, 1, 100);
         Due.is("9 0 and 1 are like", x.next(0), 0);
@@ -345,7 +333,7 @@ public final class PromisesTest {
         x.answer(1, PASSED);
         Due.is("9 2 has all: it doesn't matter", x.next(0), 0);
         x.stop(1);
-        CulpritSearch y = chain(3, 2);
+        CulpritSearch y = Graphs.chain(3, 2);
         y.good(1, 0);
         y.begin(0, 2, 0, 1, 100);
         y.begin(1, 2, 0, 1, 100);
@@ -385,7 +373,7 @@ public final class PromisesTest {
     }
 
     private static void promise10Answer() {
-        CulpritSearch x = chain(8, 2);
+        CulpritSearch x = Graphs.chain(8, 2);
         x.begin(0, 7, 0, 1, 100);
         Due.is("10 failed in 3", x.answer(0, FAILED), 0);
         Due.is("10 0 to 3 are left", x.total(0), 4);
@@ -407,7 +395,7 @@ public final class PromisesTest {
     }
 
     private static void promise10WrongInputs() {
-        CulpritSearch x = chain(8, 2);
+        CulpritSearch x = Graphs.chain(8, 2);
         Due.is("10 no search", x.answer(0, PASSED), NONE);
         x.begin(0, 7, 0, 1, 100);
         for (int wrong : new int[] {-1, 3, 4, LEAST, MOST}) {
@@ -422,7 +410,7 @@ public final class PromisesTest {
     }
 
     private static void promise11Weight() {
-        CulpritSearch x = chain(5, 2);
+        CulpritSearch x = Graphs.chain(5, 2);
         x.change(1, NONE, NONE);
         Due.is("11 no search", x.weight(0, 0), 0);
         x.good(0, 0);
@@ -450,7 +438,7 @@ public final class PromisesTest {
     }
 
     private static void promise11GreatWeights() {
-        CulpritSearch x = chain(2, 1);
+        CulpritSearch x = Graphs.chain(2, 1);
         x.begin(0, 1, 8, 9, 100);
         for (int i = 0; i < 15; i++) {
             x.answer(0, PASSED);
@@ -494,7 +482,7 @@ public final class PromisesTest {
     }
 
     private static void promise13Total() {
-        CulpritSearch x = chain(6, 2);
+        CulpritSearch x = Graphs.chain(6, 2);
         for (int wrong : new int[] {-1, 0, 2, 4, LEAST, MOST}) {
             Due.is("13 no search " + wrong, x.total(wrong), 0);
         }
@@ -509,7 +497,7 @@ public final class PromisesTest {
     }
 
     private static void promise14Found() {
-        CulpritSearch x = chain(4, 2);
+        CulpritSearch x = Graphs.chain(4, 2);
         for (int wrong : new int[] {-1, 0, 2, 4, LEAST, MOST}) {
             Due.is("14 no search " + wrong, x.found(wrong), NONE);
         }
@@ -531,7 +519,7 @@ public final class PromisesTest {
     }
 
     private static void promise15Told() {
-        CulpritSearch x = chain(6, 2);
+        CulpritSearch x = Graphs.chain(6, 2);
         Due.is("15 no search", x.told(0, 0), NONE);
         x.good(0, 0);
         x.begin(0, 4, 1, 3, 100);
@@ -597,7 +585,7 @@ public final class PromisesTest {
         x.begin(1, 1, 0, 1, 100);
         Due.is("16 the bad one is it", x.way(1, 0), 1);
         Due.is("16 .. and the end", x.way(1, 1), NONE);
-        CulpritSearch y = chain(40, 1);
+        CulpritSearch y = Graphs.chain(40, 1);
         y.begin(0, 39, 0, 1, 100);
         findByHand(y, 0, 0);
         Due.is("16 the longest way", y.way(0, 39), 0);
@@ -613,7 +601,7 @@ public final class PromisesTest {
     }
 
     private static void promise17Counted() {
-        CulpritSearch x = chain(9, 2);
+        CulpritSearch x = Graphs.chain(9, 2);
         Due.is("17 answers without a search", x.counted(0, 0), NONE);
         Due.is("17 skipped without a search", x.counted(0, 1), 0);
         Due.is("17 built without a search", x.counted(0, 2), 0);
